@@ -27,36 +27,6 @@ public final class PromiseTest {
         Check.end();
     }
 
-    private static PastMonitor monitor(int window, int[] formula, int... events) {
-        PastMonitor x = new PastMonitor(window);
-        for (int token : formula) {
-            x.feed(token);
-        }
-        for (int facts : events) {
-            x.event(facts);
-        }
-        return x;
-    }
-
-    private static int[] formula(int... tokens) {
-        return tokens;
-    }
-
-    private static PastMonitor full(int... formula) {
-        PastMonitor x = monitor(0, formula);
-        for (int i = 0; i < 200; i++) {
-            Check.due("full: event " + i, x.event(i % 16), i);
-        }
-        return x;
-    }
-
-    private static void dueTruth(String name, PastMonitor x, String truth) {
-        for (int t = 0; t < truth.length(); t++) {
-            Check.due(name + ": at(" + t + ")", x.at(t), truth.charAt(t) == '1');
-        }
-        Check.due(name + ": events()", x.events(), truth.length());
-    }
-
     private static void newObject() {
         PastMonitor x = new PastMonitor(3);
         Check.due("1: events()", x.events(), 0);
@@ -78,7 +48,7 @@ public final class PromiseTest {
             Check.due("2: feed(" + token + ")", x.feed(token), 1);
             Check.due("2: fed " + token, x.back(), token);
         }
-        PastMonitor x = monitor(1, formula(5));
+        PastMonitor x = Make.monitor(1, Make.formula(5));
         Check.due("2: feed(13)", x.feed(13), NONE);
         for (int token : WRONG_NUMBERS) {
             Check.due("2: feed(" + token + ")", x.feed(token), NONE);
@@ -104,25 +74,25 @@ public final class PromiseTest {
     }
 
     private static void back() {
-        PastMonitor x = monitor(1, formula(10, 12, 3, 0));
+        PastMonitor x = Make.monitor(1, Make.formula(10, 12, 3, 0));
         int[] want = {0, 3, 12, 10, NONE, NONE};
         for (int token : want) {
             Check.due("3: back()", x.back(), token);
         }
         Check.due("3: feed after all are gone", x.feed(2), 1);
         Check.due("3: complete again", x.complete(), true);
-        PastMonitor y = monitor(1, formula(4, 1), 2, 0);
+        PastMonitor y = Make.monitor(1, Make.formula(4, 1), 2, 0);
         y.back();
         Check.due("3: events stay", y.events(), 2);
     }
 
     private static void complete() {
-        dueComplete("each fact", formula(0), formula(1), formula(2), formula(3));
-        dueComplete("one operand", formula(4, 0), formula(7, 1), formula(8, 2), formula(9, 3),
-                formula(11, 0), formula(12, 1), formula(4, 7, 8, 9, 11, 12, 2));
-        dueComplete("two operands", formula(5, 0, 1), formula(6, 2, 3), formula(10, 0, 0),
-                formula(5, 6, 0, 1, 10, 2, 3), formula(10, 4, 0, 5, 1, 2),
-                formula(6, 6, 6, 6, 6, 6, 4, 0, 1, 2, 3, 0, 1, 2));
+        dueComplete("each fact", Make.formula(0), Make.formula(1), Make.formula(2), Make.formula(3));
+        dueComplete("one operand", Make.formula(4, 0), Make.formula(7, 1), Make.formula(8, 2), Make.formula(9, 3),
+                Make.formula(11, 0), Make.formula(12, 1), Make.formula(4, 7, 8, 9, 11, 12, 2));
+        dueComplete("two operands", Make.formula(5, 0, 1), Make.formula(6, 2, 3), Make.formula(10, 0, 0),
+                Make.formula(5, 6, 0, 1, 10, 2, 3), Make.formula(10, 4, 0, 5, 1, 2),
+                Make.formula(6, 6, 6, 6, 6, 6, 4, 0, 1, 2, 3, 0, 1, 2));
         Check.due("4: no token", new PastMonitor(0).complete(), false);
     }
 
@@ -148,10 +118,10 @@ public final class PromiseTest {
         Check.due("5: -1", new PastMonitor(-1).window(), 0);
         Check.due("5: least", new PastMonitor(Integer.MIN_VALUE).window(), 0);
         // The clamped window is also the one that the formula is judged with.
-        PastMonitor wide = monitor(99, formula(11, 0), 1, 0, 0, 0, 0, 0, 0, 0, 0, 0, 0, 0, 0, 0);
-        dueTruth("5: clamped to 12", wide, "11111111111110");
-        dueTruth("5: clamped to 0", monitor(-5, formula(11, 0), 1, 0, 1), "101");
-        PastMonitor x = monitor(7, formula(4, 0), 1, 2);
+        PastMonitor wide = Make.monitor(99, Make.formula(11, 0), 1, 0, 0, 0, 0, 0, 0, 0, 0, 0, 0, 0, 0, 0);
+        Check.dueTruth("5: clamped to 12", wide, "11111111111110");
+        Check.dueTruth("5: clamped to 0", Make.monitor(-5, Make.formula(11, 0), 1, 0, 1), "101");
+        PastMonitor x = Make.monitor(7, Make.formula(4, 0), 1, 2);
         x.restart();
         x.back();
         Check.due("5: stays", x.window(), 7);
@@ -176,7 +146,7 @@ public final class PromiseTest {
         Check.due("6: wrong ones change nothing", x.events(), 16);
         Check.due("6: the next", x.event(3), 16);
 
-        PastMonitor y = full(0);
+        PastMonitor y = Make.full(0);
         Check.due("6: the 201st", y.event(1), FULL);
         Check.due("6: nor 0", y.event(0), FULL);
         Check.due("6: 200 stay", y.events(), 200);
@@ -188,7 +158,7 @@ public final class PromiseTest {
     }
 
     private static void undo() {
-        PastMonitor x = monitor(0, formula(8, 0), 0, 1, 0);
+        PastMonitor x = Make.monitor(0, Make.formula(8, 0), 0, 1, 0);
         Check.due("7: true", x.now(), true);
         Check.due("7: undo()", x.undo(), 2);
         Check.due("7: still true", x.now(), true);
@@ -202,7 +172,7 @@ public final class PromiseTest {
     }
 
     private static void restart() {
-        PastMonitor x = monitor(4, formula(9, 0), 1, 0, 1);
+        PastMonitor x = Make.monitor(4, Make.formula(9, 0), 1, 0, 1);
         x.restart();
         Check.due("8: events()", x.events(), 0);
         Check.due("8: complete()", x.complete(), true);
@@ -213,7 +183,7 @@ public final class PromiseTest {
         Check.due("8: the old failure is forgotten", x.now(), true);
         Check.due("8: the formula stays", x.back(), 0);
         Check.due("8: the formula stays", x.back(), 9);
-        PastMonitor y = full(0);
+        PastMonitor y = Make.full(0);
         y.restart();
         Check.due("8: room again", y.event(0), 0);
         y.restart();
@@ -237,11 +207,11 @@ public final class PromiseTest {
         x.wouldHold(3);
         x.allowed();
         Check.due("9: a tried one does not count", x.events(), 4);
-        Check.due("9: full", full(0).events(), 200);
+        Check.due("9: full", Make.full(0).events(), 200);
     }
 
     private static void now() {
-        PastMonitor x = monitor(0, formula(4, 1));
+        PastMonitor x = Make.monitor(0, Make.formula(4, 1));
         Check.due("10: no event", x.now(), false);
         x.event(0);
         Check.due("10: true", x.now(), true);
@@ -253,13 +223,13 @@ public final class PromiseTest {
         Check.due("10: not complete", x.now(), false);
         x.back();
         Check.due("10: no token", x.now(), false);
-        Check.due("10: full, fact 0", full(0).now(), true);
-        Check.due("10: full, fact 3", full(3).now(), false);
+        Check.due("10: full, fact 0", Make.full(0).now(), true);
+        Check.due("10: full, fact 3", Make.full(3).now(), false);
     }
 
     private static void at() {
-        PastMonitor x = monitor(0, formula(4, 0), 0, 1, 0);
-        dueTruth("11", x, "101");
+        PastMonitor x = Make.monitor(0, Make.formula(4, 0), 0, 1, 0);
+        Check.dueTruth("11", x, "101");
         Check.due("11: at(3)", x.at(3), false);
         Check.due("11: at(200)", x.at(200), false);
         for (int t : WRONG_NUMBERS) {
@@ -269,8 +239,8 @@ public final class PromiseTest {
         Check.due("11: undone", x.at(2), false);
         x.back();
         Check.due("11: not complete", x.at(0), false);
-        Check.due("11: no event", monitor(0, formula(4, 0)).at(0), false);
-        PastMonitor y = full(4, 0);
+        Check.due("11: no event", Make.monitor(0, Make.formula(4, 0)).at(0), false);
+        PastMonitor y = Make.full(4, 0);
         Check.due("11: full, at(198)", y.at(198), true);
         Check.due("11: full, at(199)", y.at(199), false);
         Check.due("11: full, at(200)", y.at(200), false);
@@ -292,8 +262,8 @@ public final class PromiseTest {
         }
         x.back();
         Check.due("12: not complete again", x.count(), NONE);
-        Check.due("12: full", full(2).count(), 100);
-        Check.due("12: all 200", full(6, 0, 4, 0).count(), 200);
+        Check.due("12: full", Make.full(2).count(), 100);
+        Check.due("12: all 200", Make.full(6, 0, 4, 0).count(), 200);
     }
 
     private static void violation() {
@@ -317,13 +287,13 @@ public final class PromiseTest {
         Check.due("13: violation(200)", x.violation(200), NONE);
         x.restart();
         Check.due("13: no event", x.violation(0), NONE);
-        PastMonitor y = full(4, 0);
+        PastMonitor y = Make.full(4, 0);
         Check.due("13: full, from 199", y.violation(199), 199);
         Check.due("13: full, from 200", y.violation(200), NONE);
-        Check.due("13: no token, with an event", monitor(0, formula(), 0).violation(0), NONE);
-        Check.due("13: AND without its second", monitor(0, formula(5, 0), 0).violation(0), NONE);
-        Check.due("13: BEFORE without its operand", monitor(0, formula(7), 0).violation(0), NONE);
-        Check.due("13: never false", full(6, 0, 4, 0).violation(0), NONE);
+        Check.due("13: no token, with an event", Make.monitor(0, Make.formula(), 0).violation(0), NONE);
+        Check.due("13: AND without its second", Make.monitor(0, Make.formula(5, 0), 0).violation(0), NONE);
+        Check.due("13: BEFORE without its operand", Make.monitor(0, Make.formula(7), 0).violation(0), NONE);
+        Check.due("13: never false", Make.full(6, 0, 4, 0).violation(0), NONE);
     }
 
     private static void streak() {
@@ -341,7 +311,7 @@ public final class PromiseTest {
         }
         x.back();
         Check.due("14: not complete again", x.streak(), NONE);
-        Check.due("14: all 200", full(6, 0, 4, 0).streak(), 200);
+        Check.due("14: all 200", Make.full(6, 0, 4, 0).streak(), 200);
     }
 
     private static void wouldHold() {
@@ -357,21 +327,22 @@ public final class PromiseTest {
         Check.due("15: nothing changed", x.events(), 1);
         Check.due("15: nothing changed", x.wouldHold(0), false);
         Check.due("15: the truth stays", x.now(), true);
-        Check.due("15: wouldHold(16)", monitor(0, formula(4, 0)).wouldHold(16), false);
+        Check.due("15: wouldHold(16)", Make.monitor(0, Make.formula(4, 0)).wouldHold(16), false);
         for (int facts : WRONG_NUMBERS) {
-            Check.due("15: wouldHold(" + facts + ")", monitor(0, formula(4, 0)).wouldHold(facts), false);
-            Check.due("15: wouldHold(" + facts + ")", monitor(0, formula(3)).wouldHold(facts), false);
-            Check.due("15: wouldHold(" + facts + ")", monitor(0, formula(6, 0, 4, 0)).wouldHold(facts), false);
+            Check.due("15: wouldHold(" + facts + ")", Make.monitor(0, Make.formula(4, 0)).wouldHold(facts), false);
+            Check.due("15: wouldHold(" + facts + ")", Make.monitor(0, Make.formula(3)).wouldHold(facts), false);
+            PastMonitor always = Make.monitor(0, Make.formula(6, 0, 4, 0));
+            Check.due("15: wouldHold(" + facts + ")", always.wouldHold(facts), false);
         }
         for (int facts = 0; facts < 16; facts++) {
             boolean due = (facts & 6) == 6;
-            Check.due("15: AND 1 2 of " + facts, monitor(0, formula(5, 1, 2), 0).wouldHold(facts), due);
+            Check.due("15: AND 1 2 of " + facts, Make.monitor(0, Make.formula(5, 1, 2), 0).wouldHold(facts), due);
         }
-        PastMonitor y = full(8, 5, 0, 7, 0);
+        PastMonitor y = Make.full(8, 5, 0, 7, 0);
         Check.due("15: full", y.wouldHold(1), true);
-        PastMonitor z = full(5, 0, 7, 3);
+        PastMonitor z = Make.full(5, 0, 7, 3);
         Check.due("15: full, the 201st", z.wouldHold(1), false);
-        PastMonitor w = full(5, 3, 7, 0);
+        PastMonitor w = Make.full(5, 3, 7, 0);
         Check.due("15: full, the 201st with 3", w.wouldHold(8), true);
         Check.due("15: full, the 201st without 3", w.wouldHold(7), false);
         Check.due("15: full, nothing changed", w.events(), 200);
@@ -387,24 +358,24 @@ public final class PromiseTest {
         Check.due("16: not complete", x.allowed(), 0);
         x.feed(1);
         Check.due("16: OR of two facts", x.allowed(), 12);
-        Check.due("16: AND", monitor(0, formula(5, 0, 1)).allowed(), 4);
-        Check.due("16: three facts", monitor(0, formula(5, 0, 5, 1, 2)).allowed(), 2);
-        Check.due("16: four facts", monitor(0, formula(5, 0, 5, 1, 5, 2, 3)).allowed(), 1);
-        Check.due("16: none", monitor(0, formula(5, 0, 4, 0)).allowed(), 0);
-        Check.due("16: all", monitor(0, formula(6, 0, 4, 0)).allowed(), 16);
-        PastMonitor y = monitor(1, formula(11, 2), 4);
+        Check.due("16: AND", Make.monitor(0, Make.formula(5, 0, 1)).allowed(), 4);
+        Check.due("16: three facts", Make.monitor(0, Make.formula(5, 0, 5, 1, 2)).allowed(), 2);
+        Check.due("16: four facts", Make.monitor(0, Make.formula(5, 0, 5, 1, 5, 2, 3)).allowed(), 1);
+        Check.due("16: none", Make.monitor(0, Make.formula(5, 0, 4, 0)).allowed(), 0);
+        Check.due("16: all", Make.monitor(0, Make.formula(6, 0, 4, 0)).allowed(), 16);
+        PastMonitor y = Make.monitor(1, Make.formula(11, 2), 4);
         Check.due("16: the window still holds it", y.allowed(), 16);
         Check.due("16: nothing changed", y.events(), 1);
         y.event(0);
         Check.due("16: it has left the window", y.allowed(), 8);
         Check.due("16: asked twice", y.allowed(), 8);
-        Check.due("16: broken for good", monitor(1, formula(9, 2), 4, 0).allowed(), 0);
-        Check.due("16: full", full(10, 3, 0).allowed(), 12);
-        Check.due("16: full, the last has no fact 3", full(7, 3).allowed(), 0);
+        Check.due("16: broken for good", Make.monitor(1, Make.formula(9, 2), 4, 0).allowed(), 0);
+        Check.due("16: full", Make.full(10, 3, 0).allowed(), 12);
+        Check.due("16: full, the last has no fact 3", Make.full(7, 3).allowed(), 0);
     }
 
     private static void orderAndLimits() {
-        PastMonitor x = full(4, 0);
+        PastMonitor x = Make.full(4, 0);
         Check.due("17: NONE before FULL, 16", x.event(16), NONE);
         for (int facts : WRONG_NUMBERS) {
             Check.due("17: NONE before FULL, " + facts, x.event(facts), NONE);
@@ -443,49 +414,50 @@ public final class PromiseTest {
     /** Each token of the document's table, by hand. */
     private static void tokens() {
         int[] g = {0, 1, 0, 0, 1, 1, 0};
-        dueTruth("FACT 0", monitor(2, formula(0), g), "0100110");
-        dueTruth("NOT", monitor(2, formula(4, 0), g), "1011001");
+        Check.dueTruth("FACT 0", Make.monitor(2, Make.formula(0), g), "0100110");
+        Check.dueTruth("NOT", Make.monitor(2, Make.formula(4, 0), g), "1011001");
         int[] both = {0, 1, 2, 3};
-        dueTruth("AND", monitor(2, formula(5, 0, 1), both), "0001");
-        dueTruth("OR", monitor(2, formula(6, 0, 1), both), "0111");
-        dueTruth("BEFORE", monitor(2, formula(7, 0), g), "0010011");
-        dueTruth("BEFORE at 0", monitor(2, formula(7, 0), 1), "0");
-        dueTruth("BEFORE NOT at 0", monitor(2, formula(7, 4, 0), 0, 0), "01");
-        dueTruth("NOT BEFORE at 0", monitor(2, formula(4, 7, 0), 1, 1), "10");
-        dueTruth("ONCE", monitor(2, formula(8, 0), g), "0111111");
-        dueTruth("ALWAYS", monitor(2, formula(9, 0), 1, 1, 0, 1), "1100");
-        dueTruth("ALWAYS, false at 0", monitor(2, formula(9, 0), 0, 1), "00");
+        Check.dueTruth("AND", Make.monitor(2, Make.formula(5, 0, 1), both), "0001");
+        Check.dueTruth("OR", Make.monitor(2, Make.formula(6, 0, 1), both), "0111");
+        Check.dueTruth("BEFORE", Make.monitor(2, Make.formula(7, 0), g), "0010011");
+        Check.dueTruth("BEFORE at 0", Make.monitor(2, Make.formula(7, 0), 1), "0");
+        Check.dueTruth("BEFORE NOT at 0", Make.monitor(2, Make.formula(7, 4, 0), 0, 0), "01");
+        Check.dueTruth("NOT BEFORE at 0", Make.monitor(2, Make.formula(4, 7, 0), 1, 1), "10");
+        Check.dueTruth("ONCE", Make.monitor(2, Make.formula(8, 0), g), "0111111");
+        Check.dueTruth("ALWAYS", Make.monitor(2, Make.formula(9, 0), 1, 1, 0, 1), "1100");
+        Check.dueTruth("ALWAYS, false at 0", Make.monitor(2, Make.formula(9, 0), 0, 1), "00");
         // SINCE g h with g fact 0 and h fact 1: h needs no g at its own event.
-        dueTruth("SINCE", monitor(2, formula(10, 0, 1), 1, 2, 1, 1, 0, 1, 3, 1, 2, 0), "0111001110");
-        dueTruth("SINCE, h at 0", monitor(2, formula(10, 0, 1), 2, 1, 0), "110");
-        dueTruth("LATELY 0", monitor(0, formula(11, 0), g), "0100110");
-        dueTruth("LATELY 1", monitor(1, formula(11, 0), g), "0110111");
-        dueTruth("LATELY 2", monitor(2, formula(11, 0), 1, 0, 0, 0, 1), "11101");
-        dueTruth("STEADY 0", monitor(0, formula(12, 0), g), "0100110");
-        dueTruth("STEADY 1", monitor(1, formula(12, 0), g), "0000010");
-        dueTruth("STEADY 2, from the first on", monitor(2, formula(12, 0), 1, 1, 0, 1, 1, 1), "110001");
-        dueTruth("order of operands", monitor(2, formula(10, 4, 0, 5, 1, 7, 2), 6, 2, 0, 1, 0), "01100");
-        dueTruth("nested windows", monitor(1, formula(11, 11, 0), 1, 0, 0, 0), "1110");
+        Check.dueTruth("SINCE", Make.monitor(2, Make.formula(10, 0, 1), 1, 2, 1, 1, 0, 1, 3, 1, 2, 0), "0111001110");
+        Check.dueTruth("SINCE, h at 0", Make.monitor(2, Make.formula(10, 0, 1), 2, 1, 0), "110");
+        Check.dueTruth("LATELY 0", Make.monitor(0, Make.formula(11, 0), g), "0100110");
+        Check.dueTruth("LATELY 1", Make.monitor(1, Make.formula(11, 0), g), "0110111");
+        Check.dueTruth("LATELY 2", Make.monitor(2, Make.formula(11, 0), 1, 0, 0, 0, 1), "11101");
+        Check.dueTruth("STEADY 0", Make.monitor(0, Make.formula(12, 0), g), "0100110");
+        Check.dueTruth("STEADY 1", Make.monitor(1, Make.formula(12, 0), g), "0000010");
+        Check.dueTruth("STEADY 2, from the first on", Make.monitor(2, Make.formula(12, 0), 1, 1, 0, 1, 1, 1), "110001");
+        int[] order = Make.formula(10, 4, 0, 5, 1, 7, 2);
+        Check.dueTruth("order of operands", Make.monitor(2, order, 6, 2, 0, 1, 0), "01100");
+        Check.dueTruth("nested windows", Make.monitor(1, Make.formula(11, 11, 0), 1, 0, 0, 0), "1110");
     }
 
     private static void changedFormula() {
-        PastMonitor x = monitor(1, formula(8, 0), 1, 2, 0);
-        dueTruth("ONCE 0", x, "111");
+        PastMonitor x = Make.monitor(1, Make.formula(8, 0), 1, 2, 0);
+        Check.dueTruth("ONCE 0", x, "111");
         x.back();
         x.feed(1);
-        dueTruth("ONCE 1", x, "011");
+        Check.dueTruth("ONCE 1", x, "011");
         x.back();
         x.back();
         x.feed(12);
         x.feed(4);
         x.feed(0);
-        dueTruth("STEADY NOT 0", x, "001");
+        Check.dueTruth("STEADY NOT 0", x, "001");
         x.back();
         x.back();
         x.back();
         x.feed(9);
         x.feed(0);
-        dueTruth("ALWAYS 0", x, "100");
+        Check.dueTruth("ALWAYS 0", x, "100");
         Check.due("the events stay", x.events(), 3);
     }
 }
